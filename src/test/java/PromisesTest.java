@@ -26,7 +26,6 @@ public final class PromisesTest {
         foundFromWrongInputs();
         spare();
         orderAndLimits();
-        lastOfManyCalls();
         due.end();
     }
 
@@ -432,20 +431,5 @@ public final class PromisesTest {
         due.is("sound()", x.sound(), true);
         due.is("found(2)", x.found(2), 5);
         due.is("spare()", x.spare(), 2);
-    }
-
-    private static void lastOfManyCalls() {
-        due.promise("512 calls");
-        MarchTester x = new MarchTester();
-        for (int call = 0; call < 508; call += 4) {
-            due.is("march(0)", x.march(0), 0);
-            due.is("op(0)", x.op(0), 1);
-            due.is("drop()", x.drop(), 1);
-            due.is("drop()", x.drop(), 0);
-        }
-        due.is("march(1)", x.march(1), 0);
-        due.is("op(2)", x.op(2), 1);
-        due.is("op(3)", x.op(3), 2);
-        due.is("covered() as the 512th call", x.covered(), EVERY_KIND);
     }
 }

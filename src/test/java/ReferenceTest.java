@@ -73,7 +73,7 @@ public final class ReferenceTest {
             for (int call = 0; call < 500; call++) {
                 pair.anyCall();
             }
-            pair.askShort();
+            pair.askBrief();
         }
     }
 
@@ -130,30 +130,12 @@ public final class ReferenceTest {
             }
         }
 
-        void askShort() {
-            due.is("marches()", tester.marches(), plain.marches());
-            due.is("steps()", tester.steps(), plain.steps());
-            due.is("sound()", tester.sound(), plain.sound());
-            due.is("covered()", tester.covered(), plain.covered());
-            due.is("spare()", tester.spare(), plain.spare());
+        void askBrief() {
+            Answers.areBriefOf(due, tester, plain);
         }
 
-        /** Each fault once, so that the object stays within its 512 calls. */
         void askAll() {
-            askShort();
-            for (int kind = 0; kind < 14; kind++) {
-                due.is("found(" + kind + ")", tester.found(kind), plain.found(kind));
-                for (int v = 0; v < 5; v++) {
-                    for (int a = 0; a < (kind < 4 ? 1 : 5); a++) {
-                        if (kind >= 4 && a == v) {
-                            continue;
-                        }
-                        String fault = "(" + kind + ", " + v + ", " + a + ")";
-                        due.is("finds" + fault, tester.finds(kind, v, a), plain.finds(kind, v, a));
-                        due.is("foundFrom" + fault, tester.foundFrom(kind, v, a), plain.foundFrom(kind, v, a));
-                    }
-                }
-            }
+            Answers.areAllOf(due, tester, plain);
         }
     }
 }
